@@ -122,12 +122,17 @@ public final class PromiseTest {
         x.undo();
         x.undo();
         due.is("children(1) without the one undone", x.children(1), 0);
+        due.is("child(1, 0) of the one undone", x.child(1, 0), NONE);
         due.is("depth(2) of the one undone", x.depth(2), NONE);
         due.is("close() of 1 as a leaf", x.close(), 1);
         due.is("open() takes the number again", x.open(), 2);
         due.is("parent(2) is the new one", x.parent(2), NONE);
         due.is("previous(2) is the new one", x.previous(2), 1);
         due.is("leavesBefore(2) is the new one", x.leavesBefore(2), 2);
+        due.is("undo() of the new one", x.undo(), 4);
+        due.is("undo() of a closing bracket where an opening one had been", x.undo(), 3);
+        due.is("its node is still there", x.nodes(), 2);
+        due.is("and open", x.openNodes(), 1);
     }
 
     private static void promise5Nodes() {
@@ -204,7 +209,9 @@ public final class PromiseTest {
 
     private static void promise14Meet() {
         TreeCodes x = written(TREE);
-        int[][] meets = {{2, 3, 1}, {2, 1, 1}, {2, 2, 2}, {3, 4, 0}, {7, 2, 0}, {7, 6, 6}, {7, 5, 5}, {0, 7, 0}, {4, 5, 0}};
+        int[][] meets = {
+            {2, 3, 1}, {2, 1, 1}, {2, 2, 2}, {3, 4, 0}, {7, 2, 0}, {7, 6, 6}, {7, 5, 5}, {0, 7, 0}, {4, 5, 0}
+        };
         for (int[] m : meets) {
             due.is("meet(" + m[0] + ", " + m[1] + ")", x.meet(m[0], m[1]), m[2]);
             due.is("meet(" + m[1] + ", " + m[0] + ")", x.meet(m[1], m[0]), m[2]);
