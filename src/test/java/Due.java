@@ -5,6 +5,14 @@ final class Due {
     private static final int MOST_PRINTED = 50;
     private int asked = 0;
     private int wrong = 0;
+    private int wrongHere = 0;
+    private String sentence = "";
+
+    /** Names the sentence of the document that the answers from here on rest on. */
+    void about(String words) {
+        sentence = "[" + words + "] ";
+        wrongHere = 0;
+    }
 
     void is(String call, long got, long want) {
         is(() -> call, got, want);
@@ -14,18 +22,27 @@ final class Due {
     void is(Supplier<String> call, long got, long want) {
         asked++;
         if (got != want) {
-            wrong++;
-            if (wrong <= MOST_PRINTED) {
-                System.out.println(call.get() + " answered " + got + ", due is " + want);
-            }
+            tellWrong(call.get() + " answered " + got + ", due is " + want);
         }
     }
 
     void holds(String claim, boolean isSo) {
+        holds(() -> claim, isSo);
+    }
+
+    void holds(Supplier<String> claim, boolean isSo) {
         asked++;
         if (!isSo) {
-            wrong++;
-            System.out.println("does not hold: " + claim);
+            tellWrong("does not hold: " + claim.get());
+        }
+    }
+
+    private void tellWrong(String words) {
+        wrong++;
+        wrongHere++;
+        // One broken sentence must not drown the others.
+        if (wrongHere <= MOST_PRINTED) {
+            System.out.println(sentence + words);
         }
     }
 

@@ -1,34 +1,5 @@
-import java.util.List;
-
 /** Compares TreeCodes with PlainModel: on every short list, and in long runs that mix all calls. */
 public final class ModelTest {
-    private interface Asked<T> {
-        int answer(T of, int v, int w);
-    }
-
-    private record Call(String name, Asked<TreeCodes> codes, Asked<PlainModel> model) {
-    }
-
-    private static final Call OPEN = new Call("open", (x, v, w) -> x.open(), (x, v, w) -> x.open());
-    private static final Call CLOSE = new Call("close", (x, v, w) -> x.close(), (x, v, w) -> x.close());
-    private static final Call UNDO = new Call("undo", (x, v, w) -> x.undo(), (x, v, w) -> x.undo());
-    private static final List<Call> QUESTIONS = List.of(
-        new Call("nodes", (x, v, w) -> x.nodes(), (x, v, w) -> x.nodes()),
-        new Call("openNodes", (x, v, w) -> x.openNodes(), (x, v, w) -> x.openNodes()),
-        new Call("parent", (x, v, w) -> x.parent(v), (x, v, w) -> x.parent(v)),
-        new Call("depth", (x, v, w) -> x.depth(v), (x, v, w) -> x.depth(v)),
-        new Call("size", (x, v, w) -> x.size(v), (x, v, w) -> x.size(v)),
-        new Call("children", (x, v, w) -> x.children(v), (x, v, w) -> x.children(v)),
-        new Call("child", (x, v, w) -> x.child(v, w), (x, v, w) -> x.child(v, w)),
-        new Call("next", (x, v, w) -> x.next(v), (x, v, w) -> x.next(v)),
-        new Call("previous", (x, v, w) -> x.previous(v), (x, v, w) -> x.previous(v)),
-        new Call("meet", (x, v, w) -> x.meet(v, w), (x, v, w) -> x.meet(v, w)),
-        new Call("aboveAt", (x, v, w) -> x.aboveAt(v, w), (x, v, w) -> x.aboveAt(v, w)),
-        new Call("height", (x, v, w) -> x.height(v), (x, v, w) -> x.height(v)),
-        new Call("leavesBefore", (x, v, w) -> x.leavesBefore(v), (x, v, w) -> x.leavesBefore(v)));
-
-    // The document promises nothing past this many calls on one object, so no test goes further.
-    private static final int MOST_CALLS = 512;
     private static final int LONGEST_OF_THE_SHORT = 12;
     private static final int RUNS = 4000;
     private static final int[] FAR = {
@@ -50,7 +21,7 @@ public final class ModelTest {
 
     private static void everyShortList(String list, int open) {
         undoAll(list);
-        for (Call question : QUESTIONS) {
+        for (Call question : Call.QUESTIONS) {
             askAll(list, question);
         }
         if (list.length() == LONGEST_OF_THE_SHORT) {
@@ -67,7 +38,7 @@ public final class ModelTest {
         PlainModel model = new PlainModel();
         write(list, codes, model);
         for (int i = 0; i <= list.length() + 1; i++) {
-            compare(codes, model, UNDO, 0, 0);
+            compare(codes, model, Call.UNDO, 0, 0);
         }
     }
 
@@ -84,7 +55,7 @@ public final class ModelTest {
 
     private static void write(String list, TreeCodes codes, PlainModel model) {
         for (int i = 0; i < list.length(); i++) {
-            compare(codes, model, list.charAt(i) == '(' ? OPEN : CLOSE, 0, 0);
+            compare(codes, model, list.charAt(i) == '(' ? Call.OPEN : Call.CLOSE, 0, 0);
         }
     }
 
@@ -96,17 +67,17 @@ public final class ModelTest {
         int closes = 1 + below(8);
         int undos = below(4);
         int questions = 8;
-        for (int i = 0; i < MOST_CALLS; i++) {
+        for (int i = 0; i < Lists.MOST_CALLS; i++) {
             int pick = below(opens + closes + undos + questions);
             Call call;
             if (pick < opens) {
-                call = OPEN;
+                call = Call.OPEN;
             } else if (pick < opens + closes) {
-                call = CLOSE;
+                call = Call.CLOSE;
             } else if (pick < opens + closes + undos) {
-                call = UNDO;
+                call = Call.UNDO;
             } else {
-                call = QUESTIONS.get(below(QUESTIONS.size()));
+                call = Call.QUESTIONS.get(below(Call.QUESTIONS.size()));
             }
             compare(codes, model, call, argument(model), argument(model));
         }

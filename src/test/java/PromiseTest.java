@@ -1,12 +1,10 @@
-/** Each promise of the document by hand: ordinary inputs, the edges that it names, and wrong inputs. */
+/** Each promise of the document by hand, on ordinary lists; its edges stand in ListEdgeTest and NodeEdgeTest. */
 public final class PromiseTest {
     private static final int NONE = -1;
     private static final int FULL = -2;
-    private static final int MOST_BRACKETS = 64;
-    /** Node 0 has the children 1, 4 and 5; 1 has 2 and 3; 5 has 6, and 6 has 7. The nodes 0, 5 and 6 are open. */
-    private static final String TREE = "((()())()((()";
-    /** Two roots with a child each, then an open one without. */
-    private static final String FOREST = "(())(())(";
+    private static final int MOST_BRACKETS = Lists.MOST_BRACKETS;
+    private static final String TREE = Lists.TREE;
+    private static final String FOREST = Lists.FOREST;
 
     private static final Due due = new Due();
 
@@ -30,19 +28,12 @@ public final class PromiseTest {
         promise16Height();
         promise17LeavesBefore();
         openNodesCountAsClosedAtTheEnd();
-        fullListsOfEveryShape();
-        noNodeForWrongNumbers();
         objectsKeepApart();
         due.end();
     }
 
     private static TreeCodes written(String list) {
-        TreeCodes x = new TreeCodes();
-        for (int i = 0; i < list.length(); i++) {
-            int answer = list.charAt(i) == '(' ? x.open() : x.close();
-            due.holds("bracket " + i + " of " + list + " is taken", answer >= 0);
-        }
-        return x;
+        return Lists.written(due, list);
     }
 
     private static void promise1NewObject() {
@@ -264,48 +255,6 @@ public final class PromiseTest {
         due.is("height(0) with open nodes", open.height(0), 2);
         due.is("asking closes nothing", open.openNodes(), 3);
         due.is("asking writes nothing", open.undo(), 4);
-    }
-
-    private static void fullListsOfEveryShape() {
-        TreeCodes chain = written("(".repeat(64));
-        due.is("chain: depth(63)", chain.depth(63), 63);
-        due.is("chain: size(0)", chain.size(0), 64);
-        due.is("chain: height(0)", chain.height(0), 63);
-        due.is("chain: aboveAt(63, 63)", chain.aboveAt(63, 63), 63);
-        due.is("chain: aboveAt(63, 0)", chain.aboveAt(63, 0), 0);
-        due.is("chain: child(62, 0)", chain.child(62, 0), 63);
-        due.is("chain: next(63)", chain.next(63), NONE);
-        due.is("chain: meet(63, 63)", chain.meet(63, 63), 63);
-        due.is("chain: parent(64)", chain.parent(64), NONE);
-
-        TreeCodes row = written("()".repeat(32));
-        due.is("row: next(30)", row.next(30), 31);
-        due.is("row: next(31)", row.next(31), NONE);
-        due.is("row: previous(31)", row.previous(31), 30);
-        due.is("row: leavesBefore(31)", row.leavesBefore(31), 31);
-
-        TreeCodes star = written("(" + "()".repeat(31) + "(");
-        due.is("star: children(0)", star.children(0), 32);
-        due.is("star: child(0, 31)", star.child(0, 31), 32);
-        due.is("star: child(0, 32)", star.child(0, 32), NONE);
-        due.is("star: previous(32)", star.previous(32), 31);
-        due.is("star: leavesBefore(32)", star.leavesBefore(32), 31);
-    }
-
-    private static void noNodeForWrongNumbers() {
-        TreeCodes x = written(TREE);
-        for (int v : new int[] {Integer.MIN_VALUE, -65, -2, -1, 8, 63, 64, 65, Integer.MAX_VALUE}) {
-            due.is("parent(" + v + ")", x.parent(v), NONE);
-            due.is("depth(" + v + ")", x.depth(v), NONE);
-            due.is("size(" + v + ")", x.size(v), NONE);
-            due.is("children(" + v + ")", x.children(v), NONE);
-            due.is("child(" + v + ", 0)", x.child(v, 0), NONE);
-            due.is("next(" + v + ")", x.next(v), NONE);
-            due.is("previous(" + v + ")", x.previous(v), NONE);
-            due.is("aboveAt(" + v + ", 0)", x.aboveAt(v, 0), NONE);
-            due.is("height(" + v + ")", x.height(v), NONE);
-            due.is("leavesBefore(" + v + ")", x.leavesBefore(v), NONE);
-        }
     }
 
     private static void objectsKeepApart() {
