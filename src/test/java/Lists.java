@@ -4,7 +4,7 @@ import java.util.stream.IntStream;
 /** Lists of brackets that the tests share, and how one is written into a new object. */
 final class Lists {
     static final int MOST_BRACKETS = 64;
-    /** The document promises nothing past this many calls on one object, so no test goes further. */
+    /** The document promises nothing past this many calls on one object, so no test asks for an answer further on. */
     static final int MOST_CALLS = 512;
 
     /** Node 0 has the children 1, 4 and 5; 1 has 2 and 3; 5 has 6, and 6 has 7. The nodes 0, 5 and 6 are open. */

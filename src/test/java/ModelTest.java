@@ -8,8 +8,7 @@ public final class ModelTest {
     };
 
     private static final Due due = new Due();
-    // A fixed row of numbers, so that every run of the tests is the same.
-    private static long row = 20261115L;
+    private static final NumberRow row = new NumberRow();
 
     public static void main(String[] args) {
         everyShortList("", 0);
@@ -63,12 +62,12 @@ public final class ModelTest {
         TreeCodes codes = new TreeCodes();
         PlainModel model = new PlainModel();
         // Some runs must grow to the full list and some stay near the empty one, some deep and some flat.
-        int opens = 1 + below(8);
-        int closes = 1 + below(8);
-        int undos = below(4);
+        int opens = 1 + row.below(8);
+        int closes = 1 + row.below(8);
+        int undos = row.below(4);
         int questions = 8;
         for (int i = 0; i < Lists.MOST_CALLS; i++) {
-            int pick = below(opens + closes + undos + questions);
+            int pick = row.below(opens + closes + undos + questions);
             Call call;
             if (pick < opens) {
                 call = Call.OPEN;
@@ -77,19 +76,14 @@ public final class ModelTest {
             } else if (pick < opens + closes + undos) {
                 call = Call.UNDO;
             } else {
-                call = Call.QUESTIONS.get(below(Call.QUESTIONS.size()));
+                call = Call.QUESTIONS.get(row.below(Call.QUESTIONS.size()));
             }
             compare(codes, model, call, argument(model), argument(model));
         }
     }
 
     private static int argument(PlainModel model) {
-        return below(8) == 0 ? FAR[below(FAR.length)] : below(model.nodes() + 2);
-    }
-
-    private static int below(int bound) {
-        row = row * 6364136223846793005L + 1442695040888963407L;
-        return (int) ((row >>> 33) % bound);
+        return row.below(8) == 0 ? FAR[row.below(FAR.length)] : row.below(model.nodes() + 2);
     }
 
     private static void compare(TreeCodes codes, PlainModel model, Call call, int v, int w) {
