@@ -10,8 +10,8 @@ import java.util.regex.Matcher;
 import java.util.regex.Pattern;
 
 /**
- * Rules of LANGUAGE.md that a program can see, and that no call ever throws. That loops end, that calls go six
- * deep at most and that none comes back to itself must be read. To be run in the project's folder.
+ * Rules of LANGUAGE.md that are easily seen by a program, and that no call ever throws. The others must be read, as
+ * those on recursion, on the ends of loops and on calls inside arguments. To be run in the project's folder.
  */
 public final class LanguageTest {
     private static final Path SOURCE = Path.of("src/main/java/TreeCodes.java");
